@@ -12,6 +12,8 @@ public final class SpringLevels {
     private static final int MAX_FRAMES = 100;
     private static final int JUMP_LIFT = 2, SPRING_LIFT = 4;
     private static final int LIFTS = SPRING_LIFT + 1;
+    /** What is no cell of the level has this kind. */
+    private static final int OUTSIDE = -1;
 
     private final Level[] shelf;
     private int levelCount;
@@ -223,7 +225,7 @@ public final class SpringLevels {
 
     private Level levelWithCell(int level, int x, int y) {
         Level found = levelNumbered(level);
-        if (!found.holds(x, y)) {
+        if (found.kindAt(x, y) == OUTSIDE) {
             throw new IndexOutOfBoundsException("no such cell");
         }
         return found;
@@ -231,7 +233,7 @@ public final class SpringLevels {
 
     private Level levelWithoutBlockAt(int level, int x, int y) {
         Level found = levelWithCell(level, x, y);
-        if (found.isBlock(x, y)) {
+        if (found.kindAt(x, y) == BLOCK) {
             throw new IllegalStateException("the cell is BLOCK");
         }
         return found;
@@ -300,22 +302,15 @@ public final class SpringLevels {
             unlocked = false;
         }
 
-        boolean holds(int x, int y) {
-            return x >= 0 && x < width && y >= 0 && y < height;
-        }
-
         int kindAt(int x, int y) {
-            return holds(x, y) ? kinds[y * MAX_WIDTH + x] : EMPTY;
+            boolean inside = x >= 0 && x < width && y >= 0 && y < height;
+            return inside ? kinds[y * MAX_WIDTH + x] : OUTSIDE;
         }
 
         void put(int x, int y, int kind) {
-            if (holds(x, y)) {
+            if (kindAt(x, y) != OUTSIDE) {
                 kinds[y * MAX_WIDTH + x] = kind;
             }
-        }
-
-        boolean isBlock(int x, int y) {
-            return kindAt(x, y) == BLOCK;
         }
 
         boolean startsAt(int x, int y) {
@@ -352,7 +347,7 @@ public final class SpringLevels {
             int blocks = 0;
             for (int y = 0; y < height; y++) {
                 for (int x = 0; x < width; x++) {
-                    if (isBlock(x, y)) {
+                    if (kindAt(x, y) == BLOCK) {
                         blocks++;
                     }
                 }
@@ -458,8 +453,7 @@ public final class SpringLevels {
 
         /** Plays one frame; answers what the run is then, its number of frames left aside. */
         int move(Level level, int input) {
-            boolean jump = input >= 3;
-            if (jump && level.isBlock(x, y + 1)) {
+            if (input >= 3 && level.kindAt(x, y + 1) == BLOCK) {
                 lift = JUMP_LIFT;
             }
             walk(level, input);
@@ -478,35 +472,34 @@ public final class SpringLevels {
             } else if (input == 2 || input == 5) {
                 next = x + 1;
             }
-            if (isFree(level, next, y)) {
+            int beside = level.kindAt(next, y);
+            if (beside != OUTSIDE && beside != BLOCK) {
                 x = next;
             }
         }
 
         private void rise(Level level) {
-            if (isFree(level, x, y - 1)) {
+            int above = level.kindAt(x, y - 1);
+            if (above == OUTSIDE || above == BLOCK) {
+                lift = 0;
+            } else {
                 y--;
                 lift--;
-            } else {
-                lift = 0;
             }
         }
 
         private void fall(Level level) {
-            if (!level.isBlock(x, y + 1)) {
+            if (level.kindAt(x, y + 1) != BLOCK) {
                 y++;
             }
         }
 
-        private boolean isFree(Level level, int x, int y) {
-            return level.holds(x, y) && !level.isBlock(x, y);
-        }
-
         private int look(Level level) {
-            if (!level.holds(x, y) || level.kindAt(x, y) == SPIKE) {
+            int here = level.kindAt(x, y);
+            if (here == OUTSIDE || here == SPIKE) {
                 return LOST;
             }
-            if (level.kindAt(x, y) == SPRING) {
+            if (here == SPRING) {
                 lift = SPRING_LIFT;
             }
             return level.flagAt(x, y) ? WON : RUNNING;
