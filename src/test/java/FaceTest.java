@@ -48,7 +48,28 @@ public final class FaceTest {
         Checks.same("the constructor", SpringLevels.class.getConstructors()[0].toString(), "public SpringLevels()");
         Checks.same("the methods", methods().toString(), new TreeSet<>(Set.of(METHODS)).toString());
         Checks.same("the constants", constants().toString(), new TreeSet<>(Set.of(CONSTANTS)).toString());
+        noOtherMethodBearsAPublicName();
         Checks.end("FaceTest");
+    }
+
+    /** A rule of LANGUAGE.md, for the classes inside too. */
+    private static void noOtherMethodBearsAPublicName() {
+        Set<String> names = new TreeSet<>();
+        for (Method method : SpringLevels.class.getMethods()) {
+            names.add(method.getName());
+        }
+        noneIsNamedSo(SpringLevels.class, names);
+        for (Class<?> inside : SpringLevels.class.getDeclaredClasses()) {
+            noneIsNamedSo(inside, names);
+        }
+    }
+
+    private static void noneIsNamedSo(Class<?> owner, Set<String> names) {
+        for (Method method : owner.getDeclaredMethods()) {
+            boolean face = owner == SpringLevels.class && Modifier.isPublic(method.getModifiers());
+            Checks.same(owner.getSimpleName() + "." + method.getName() + " bears a public name",
+                !face && names.contains(method.getName()), false);
+        }
     }
 
     private static String clause(String... exceptions) {

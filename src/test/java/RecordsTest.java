@@ -36,6 +36,9 @@ public final class RecordsTest {
     }
 
     private static void promise22Record() {
+        SpringLevels fresh = new SpringLevels();
+        fresh.addLevel(3, 3);
+        recordIs("of a level that was never edited", fresh, 0, NONE, NONE);
         SpringLevels x = flat();
         Checks.drawOpen(x, FLAT);
         recordIs("without a run", x, 0, NONE, NONE);
@@ -129,6 +132,10 @@ public final class RecordsTest {
         Checks.same("24: bestPlayer of another level", x.bestPlayer(1), NONE);
         x.grow(0, 3);
         Checks.same("24: bestPlayer after editing", x.bestPlayer(0), NONE);
+        SpringLevels slow = flat();
+        win(slow, 0, 3, "0".repeat(95) + "22222");
+        Checks.same("24: bestPlayer with 100 frames", slow.bestPlayer(0), 3);
+        Checks.same("25: ghost behind 100 frames", slow.ghost(), 205);
     }
 
     private static void promise25Ghost() {

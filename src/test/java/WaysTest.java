@@ -4,6 +4,7 @@ public final class WaysTest {
 
     public static void main(String[] args) {
         promise9Solve();
+        promise9LongWay();
         promise9SolveIsNoEditing();
         promise10Way();
         promise11Open();
@@ -37,6 +38,22 @@ public final class WaysTest {
         wayIs(5, "......", "......", "S....F", "#....#");
         wayIs(7, "S.", "..", "..", "..", "..", "..", "..", ".F");
         wayIs(3, "S..", ".#.", "...", ".F.");
+    }
+
+    /** The longest way that a search over many levels found; no level is known whose way 100 frames cut off. */
+    private static void promise9LongWay() {
+        SpringLevels x = new SpringLevels();
+        Checks.draw(x, ".^.^.^o.^.#.", ".#.#.o.#.^^.", ".o.oo#^.ooFo", ".^^.^.#.#.#.", ".#.^^.#o#.#.", "..^o.^.#S.^.",
+            ".^.#oo..^o.o", "o.oo.o..oo^^");
+        Checks.same("9: solve of a long way", x.solve(0), 92);
+        x.open(0);
+        x.begin(0, 0);
+        for (int frame = 1; frame <= 92; frame++) {
+            Checks.same("20: left on a long way", x.left(), 93 - frame);
+            Checks.same("14: play(hint())", x.play(x.hint()), frame == 92 ? SpringLevels.WON : SpringLevels.RUNNING);
+        }
+        Checks.same("22: record of a long way", x.record(0, 0), 92);
+        Checks.same("26: replay of a long way", x.replay(0, 0), 92);
     }
 
     private static void promise9SolveIsNoEditing() {
