@@ -1,6 +1,7 @@
 /** What the tests share: counting wrong answers, asking for exceptions, and a picture of all that an object answers. */
 final class Checks {
     private static int wrong;
+    private static String sentence = "";
 
     private Checks() {
     }
@@ -9,11 +10,20 @@ final class Checks {
         long answer();
     }
 
+    /** The place in the document and the sentence there that the next answers are about: printed with a wrong one. */
+    static void about(String place, String words) {
+        sentence = place + " (\"" + words + "\"): ";
+    }
+
     static void same(String what, long got, long due) {
         if (got != due) {
-            wrong++;
-            System.out.println(what + " answered " + got + ", due is " + due);
+            wrong(what + " answered " + got + ", due is " + due);
         }
+    }
+
+    private static void wrong(String what) {
+        wrong++;
+        System.out.println(sentence + what);
     }
 
     static void same(String what, boolean got, boolean due) {
@@ -22,8 +32,7 @@ final class Checks {
 
     static void same(String what, String got, String due) {
         if (!got.equals(due)) {
-            wrong++;
-            System.out.println(what + " answered " + got + ", due is " + due);
+            wrong(what + " answered " + got + ", due is " + due);
         }
     }
 
@@ -131,6 +140,42 @@ final class Checks {
         x.solve(level);
         x.open(level);
         return level;
+    }
+
+    /** Finds the way of level 0 anew, opens it, and begins a run of player 0: for use behind an edit. */
+    static void beginAgain(SpringLevels x) {
+        x.solve(0);
+        x.open(0);
+        x.begin(0, 0);
+    }
+
+    /** A new object whose level 0 is drawn so, and open, and on which player 0 has begun a run. */
+    static SpringLevels begun(String... rows) {
+        SpringLevels x = new SpringLevels();
+        draw(x, rows);
+        beginAgain(x);
+        return x;
+    }
+
+    /** state:frames:x,y,lift. */
+    static String hero(SpringLevels x) {
+        return x.state() + ":" + x.frames() + ":" + x.heroX() + "," + x.heroY() + "," + x.lift();
+    }
+
+    /** Each step is an input, then the state, frames, x, y and lift behind it. */
+    static void goes(SpringLevels x, String... steps) {
+        for (String step : steps) {
+            int input = step.charAt(0) - '0';
+            String due = step.substring(2);
+            same("14: play(" + input + ") towards " + due, x.play(input), due.charAt(0) - '0');
+            same("15 to 19: the hero after play(" + input + ")", hero(x), due);
+        }
+    }
+
+    /** A run of these inputs, one digit a frame; it must be WON. */
+    static void win(SpringLevels x, int level, int player, String inputs) {
+        x.begin(player, level);
+        same("the run " + inputs, playAll(x, inputs), SpringLevels.WON);
     }
 
     /** Plays one digit a frame; answers what the last one answered. */

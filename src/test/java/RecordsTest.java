@@ -25,8 +25,7 @@ public final class RecordsTest {
     }
 
     private static void win(SpringLevels x, int level, int player, String inputs) {
-        x.begin(player, level);
-        Checks.same("the run " + inputs, Checks.playAll(x, inputs), WON);
+        Checks.win(x, level, player, inputs);
     }
 
     private static void recordIs(String what, SpringLevels x, int player, int frames, int half) {

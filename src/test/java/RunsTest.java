@@ -26,24 +26,15 @@ public final class RunsTest {
     }
 
     private static SpringLevels open(String... rows) {
-        SpringLevels x = new SpringLevels();
-        Checks.drawOpen(x, rows);
-        x.begin(0, 0);
-        return x;
+        return Checks.begun(rows);
     }
 
     private static String hero(SpringLevels x) {
-        return x.state() + ":" + x.frames() + ":" + x.heroX() + "," + x.heroY() + "," + x.lift();
+        return Checks.hero(x);
     }
 
-    /** Each step is an input, then the state, frames, x, y and lift behind it. */
     private static void goes(SpringLevels x, String... steps) {
-        for (String step : steps) {
-            int input = step.charAt(0) - '0';
-            String due = step.substring(2);
-            Checks.same("14: play(" + input + ") towards " + due, x.play(input), due.charAt(0) - '0');
-            Checks.same("15 to 19: the hero after play(" + input + ")", hero(x), due);
-        }
+        Checks.goes(x, steps);
     }
 
     private static void promise13Begin() {
