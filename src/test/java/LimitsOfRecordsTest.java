@@ -7,6 +7,7 @@ public final class LimitsOfRecordsTest {
     private static final String LATE = "0".repeat(95) + "22222";
 
     public static void main(String[] args) {
+        noRecordsOnANewLevel();
         promise22NoneWithoutARecord();
         promise22LeastAndLargest();
         promise22FirstBetterEqualAndWorse();
@@ -51,6 +52,27 @@ public final class LimitsOfRecordsTest {
 
     private static final int[][] NEITHER = {{-1, 0}, {1, 0}, {5, 0}, {6, 0}, {0, -1}, {0, 4}, {0, 5}, {1, 4}, {-1, -1},
         {Integer.MIN_VALUE, 0}, {Integer.MAX_VALUE, 0}, {0, Integer.MIN_VALUE}, {0, Integer.MAX_VALUE}};
+
+    /** The level is never edited: no editing has taken its records away. */
+    private static void noRecordsOnANewLevel() {
+        Checks.about("Promises 22 to 26", "NONE if there is no record");
+        SpringLevels x = new SpringLevels();
+        x.addLevel(4, 3);
+        for (int player = 0; player < 4; player++) {
+            Checks.same("22: record of a new level", x.record(0, player), NONE);
+            Checks.same("23: half of a new level", x.half(0, player), NONE);
+            Checks.same("26: replay on a new level", x.replay(0, player), NONE);
+        }
+        Checks.same("24: bestPlayer of a new level", x.bestPlayer(0), NONE);
+        x.solve(0);
+        x.open(0);
+        x.begin(0, 0);
+        Checks.same("25: ghost on a new level", x.ghost(), NONE);
+        Checks.playAll(x, "222");
+        Checks.same("22: record of the first run", x.record(0, 0), 3);
+        Checks.same("23: half of the first run", x.half(0, 0), 2);
+        Checks.same("23: half of another player", x.half(0, 1), NONE);
+    }
 
     // ---- promise 22
 

@@ -1,4 +1,7 @@
-/** The boundary cases of "Terms": Levels, Ways, Runs and records. Frames and Exceptions have tests of their own. */
+/**
+ * The boundary cases of "What it is", and of "Terms": Levels, Ways, Runs and records. Frames and Exceptions have tests
+ * of their own.
+ */
 public final class LimitsOfTermsTest {
     private static final int NONE = SpringLevels.NONE;
     private static final int EMPTY = SpringLevels.EMPTY;
@@ -14,6 +17,7 @@ public final class LimitsOfTermsTest {
     private static final String[] FIELD = {"^...", "S..F", "####"};
 
     public static void main(String[] args) {
+        theCallsUpTo512();
         atMost6Levels();
         xFrom0ToTheWidthLess1();
         yFrom0ToTheHeightLess1();
@@ -50,6 +54,24 @@ public final class LimitsOfTermsTest {
         theBestPlayerHasTheFewestFrames();
         theBestPlayerIsTheLowestOfSeveral();
         Checks.end("LimitsOfTermsTest");
+    }
+
+    // ---- What it is
+
+    /** Three calls, then 127 runs of four calls each, then the call 512. */
+    private static void theCallsUpTo512() {
+        Checks.about("What it is", "An object is used for at most 512 calls after it has been made");
+        SpringLevels x = new SpringLevels();
+        Checks.same("2: addLevel", x.addLevel(4, 3), 0);
+        Checks.same("9: solve", x.solve(0), 3);
+        Checks.same("11: open", x.open(0), false);
+        for (int run = 0; run < 127; run++) {
+            Checks.same("13: begin", x.begin(run % 4, 0), 0);
+            Checks.same("14: play", x.play(2), RUNNING);
+            Checks.same("14: play", x.play(2), RUNNING);
+            Checks.same("14: play", x.play(2), WON);
+        }
+        Checks.same("26: replay, the call 512", x.replay(0, 126 % 4), 3);
     }
 
     // ---- Levels

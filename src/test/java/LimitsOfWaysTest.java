@@ -26,6 +26,7 @@ public final class LimitsOfWaysTest {
         promise11WithoutAWay();
         promise11BehindEditing();
         promise11NoSuchLevel();
+        promise12OfANewLevel();
         promise12TrueIfItIs();
         promise12BehindARefusedOpen();
         promise12NoSuchLevel();
@@ -256,10 +257,24 @@ public final class LimitsOfWaysTest {
 
     // ---- promise 12
 
+    /** The level is never edited: no editing has closed it. */
+    private static void promise12OfANewLevel() {
+        Checks.about("Promise 12", "Returns true if it is");
+        SpringLevels x = new SpringLevels();
+        x.addLevel(3, 3);
+        Checks.same("12: isOpen of a new level", x.isOpen(0), false);
+        Checks.badState("13: begin on a new level", () -> x.begin(0, 0));
+        Checks.badState("11: open of a new level", () -> open(x, 0));
+        x.solve(0);
+        Checks.badState("13: begin on a new level that is solved", () -> x.begin(0, 0));
+        Checks.same("11: open the first time", x.open(0), false);
+        Checks.same("12: isOpen behind open", x.isOpen(0), true);
+    }
+
     private static void promise12TrueIfItIs() {
         Checks.about("Promise 12", "Returns true if it is");
         SpringLevels x = two();
-        Checks.same("12: isOpen of a new level", x.isOpen(0), false);
+        Checks.same("12: isOpen before solve", x.isOpen(0), false);
         x.solve(0);
         Checks.same("12: isOpen behind solve", x.isOpen(0), false);
         x.open(0);
