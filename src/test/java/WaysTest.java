@@ -40,7 +40,7 @@ public final class WaysTest {
         wayIs(3, "S..", ".#.", "...", ".F.");
     }
 
-    /** The longest way that a search over many levels found; no level is known whose way 100 frames cut off. */
+    /** Start and flag are EMPTY here; LimitsOfWaysTest has a way of two frames more. */
     private static void promise9LongWay() {
         SpringLevels x = new SpringLevels();
         Checks.draw(x, ".^.^.^o.^.#.", ".#.#.o.#.^^.", ".o.oo#^.ooFo", ".^^.^.#.#.#.", ".#.^^.#o#.#.", "..^o.^.#S.^.",
