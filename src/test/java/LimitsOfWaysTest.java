@@ -3,9 +3,9 @@ public final class LimitsOfWaysTest {
     private static final int NONE = SpringLevels.NONE;
     private static final int[] NO_LEVELS = {-1, 2, 5, 6, 7, Integer.MIN_VALUE, Integer.MAX_VALUE};
 
-    /** The longest way that long searches over levels found; the start and the flag are SPRING. */
-    private static final String[] LONG = {".^.#.#.ooo.o", ".^...oo#.^^.", ".oo^^o...^^.", ".^F...^.^.o.",
-        ".##.o.^.#.#S", "..o.^.o^..#.", ".^o.^.o.^.^.", "o.^o.o^o#o#o"};
+    /** The longest way that long searches over levels found; the start is a SPRING. */
+    private static final String[] LONG = {".#.^.^...ooo", ".#.^...^^.#.", ".^.oo^^oo^^.", ".o#o.#F....o",
+        ".^..^.#.#.^S", ".#o...^.o.#.", "o..^^.o.^.#.", "o..oo..o#o.o"};
 
     public static void main(String[] args) {
         promise9TheLeastWay();
@@ -57,13 +57,12 @@ public final class LimitsOfWaysTest {
         SpringLevels x = new SpringLevels();
         Checks.draw(x, LONG);
         x.setCell(0, 11, 4, SpringLevels.SPRING);
-        x.setCell(0, 2, 3, SpringLevels.SPRING);
-        Checks.same("9: solve of the longest way that is known", x.solve(0), 94);
-        Checks.same("10: way", x.way(0), 94);
+        Checks.same("9: solve of the longest way that is known", x.solve(0), 95);
+        Checks.same("10: way", x.way(0), 95);
         x.open(0);
         x.begin(0, 0);
-        for (int frame = 1; frame <= 94; frame++) {
-            Checks.same("20: left", x.left(), 95 - frame);
+        for (int frame = 1; frame <= 95; frame++) {
+            Checks.same("20: left", x.left(), 96 - frame);
             x.play(x.hint());
         }
         Checks.same("15: state", x.state(), SpringLevels.WON);

@@ -40,7 +40,7 @@ public final class WaysTest {
         wayIs(3, "S..", ".#.", "...", ".F.");
     }
 
-    /** Start and flag are EMPTY here; LimitsOfWaysTest has a way of two frames more. */
+    /** Start and flag are EMPTY here; LimitsOfWaysTest has the longest way that is known. */
     private static void promise9LongWay() {
         SpringLevels x = new SpringLevels();
         Checks.draw(x, ".^.^.^o.^.#.", ".#.#.o.#.^^.", ".o.oo#^.ooFo", ".^^.^.#.#.#.", ".#.^^.#o#.#.", "..^o.^.#S.^.",
