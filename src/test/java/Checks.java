@@ -73,13 +73,23 @@ final class Checks {
     static String picture(SpringLevels x) {
         StringBuilder all = new StringBuilder(runPicture(x)).append(" levels ").append(x.levels());
         for (int level = 0; level < x.levels(); level++) {
-            all.append(" way ").append(x.way(level)).append(" open ").append(x.isOpen(level));
-            all.append(" best ").append(x.bestPlayer(level)).append(" cells ").append(cells(x, level));
-            for (int player = 0; player < 4; player++) {
-                all.append(" record ").append(x.record(level, player)).append('/').append(x.half(level, player));
-            }
+            all.append(levelPicture(x, level));
         }
         return all.toString();
+    }
+
+    static String levelPicture(SpringLevels x, int level) {
+        StringBuilder all = new StringBuilder();
+        all.append(" way ").append(x.way(level)).append(" open ").append(x.isOpen(level));
+        all.append(" best ").append(x.bestPlayer(level)).append(" cells ").append(cells(x, level));
+        for (int player = 0; player < 4; player++) {
+            all.append(recordPicture(x, level, player));
+        }
+        return all.toString();
+    }
+
+    static String recordPicture(SpringLevels x, int level, int player) {
+        return " record " + x.record(level, player) + "/" + x.half(level, player) + "/" + x.replay(level, player);
     }
 
     static String runPicture(SpringLevels x) {
